@@ -453,7 +453,7 @@ public final class ThrowArms {
                 continue;
             }
             if (last != NONE) {
-                fewest = Math.min(fewest, told.fact(g, DAY) - told.fact(last, DAY));
+                fewest = Math.min(fewest, told.daysFrom(last, g));
             }
             last = g;
         }
@@ -861,10 +861,11 @@ public final class ThrowArms {
             }
         }
 
+        /** Seven letters of five bits each: a NAME is one number, cheap to keep and to compare. */
         private void scanWord() {
             code = NO_CODE;
             while (at < limit && isLetter(bytes[at])) {
-                code = withLetter(code, bytes[at]);
+                code = code << 5 | bytes[at] - 'a' + 1;
                 at++;
             }
             kind = at - start <= WORD_LETTERS ? WORD : BAD;
@@ -880,7 +881,15 @@ public final class ThrowArms {
         }
 
         boolean isWord(String word) {
-            return kind == WORD && code == codeOf(word);
+            if (kind != WORD || at - start != word.length()) {
+                return false;
+            }
+            for (int i = 0; start + i < at; i++) {
+                if (bytes[start + i] != word.charAt(i)) {
+                    return false;
+                }
+            }
+            return true;
         }
 
         /** The code of the one WORD in the first n bytes; NO_CODE if there is anything else. */
@@ -895,25 +904,12 @@ public final class ThrowArms {
             return kind == END ? found : NO_CODE;
         }
 
-        private static long codeOf(String word) {
-            long sum = NO_CODE;
-            for (int i = 0; i < word.length(); i++) {
-                sum = withLetter(sum, word.charAt(i));
-            }
-            return sum;
-        }
-
-        /** Seven letters of five bits each: a WORD is one number, cheap to keep and to compare. */
-        private static long withLetter(long before, int letter) {
-            return before << 5 | letter - 'a' + 1;
-        }
-
         private static boolean isLetter(int sign) {
-            return within(sign, 'a', 'z');
+            return sign >= 'a' && sign <= 'z';
         }
 
         private static boolean isDigit(int sign) {
-            return within(sign, '0', '9');
+            return sign >= '0' && sign <= '9';
         }
     }
 
@@ -1136,6 +1132,10 @@ public final class ThrowArms {
 
         int fact(int g, int what) {
             return facts[g * FACTS + what];
+        }
+
+        int daysFrom(int g, int h) {
+            return facts[h * FACTS + DAY] - facts[g * FACTS + DAY];
         }
 
         int armNamed(long code) {
@@ -1378,13 +1378,9 @@ public final class ThrowArms {
             thrown[g] = x;
         }
 
-        boolean allows(int g, int x) {
-            return clashes(g, x) == 0;
-        }
-
         boolean allowsIn(int t, int g, int x) {
             open(t);
-            return allows(g, x);
+            return clashes(g, x) == 0;
         }
 
         boolean allowsAt(int g, int k) {
@@ -1394,7 +1390,7 @@ public final class ThrowArms {
         boolean allowsMoved(int t, int from, int to, int x) {
             open(t);
             write(from, 0);
-            return allows(to, x);
+            return clashes(to, x) == 0;
         }
 
         int clashes(int g, int x) {
@@ -1434,13 +1430,9 @@ public final class ThrowArms {
             return 0;
         }
 
-        private int dayOf(int g) {
-            return book.told.fact(g, DAY);
-        }
-
         private boolean isRested(int g) {
             for (int h = 0; h < g; h++) {
-                if (thrown[h] > 0 && dayOf(g) - dayOf(h) <= book.told.restAfter(thrown[h])) {
+                if (thrown[h] > 0 && book.told.daysFrom(h, g) <= book.told.restAfter(thrown[h])) {
                     return false;
                 }
             }
@@ -1451,33 +1443,32 @@ public final class ThrowArms {
         private int daysToNext(int g) {
             for (int h = g + 1; h < book.told.games; h++) {
                 if (thrown[h] > 0) {
-                    return dayOf(h) - dayOf(g);
+                    return book.told.daysFrom(g, h);
                 }
             }
             return UNBOUNDED;
         }
 
+        /** Seven DAYS that begin with a GAME's are enough: others hold no more than these. */
         private int roomInWeek(int g) {
             int bound = book.told.bounds[WEEK];
-            return bound == 0 ? UNBOUNDED : bound - heaviestWeek(g);
-        }
-
-        /** Seven DAYS that begin with a GAME's are enough: others hold no more than these. */
-        private int heaviestWeek(int g) {
+            if (bound == 0) {
+                return UNBOUNDED;
+            }
             int heaviest = 0;
             for (int first = g; first >= 0; first--) {
-                if (dayOf(g) - dayOf(first) >= WEEK_DAYS) {
+                if (book.told.daysFrom(first, g) >= WEEK_DAYS) {
                     break;
                 }
                 heaviest = Math.max(heaviest, weekFrom(first, g));
             }
-            return heaviest;
+            return bound - heaviest;
         }
 
         private int weekFrom(int first, int without) {
             int sum = 0;
             for (int h = first; h < book.told.games; h++) {
-                if (dayOf(h) - dayOf(first) >= WEEK_DAYS) {
+                if (book.told.daysFrom(first, h) >= WEEK_DAYS) {
                     break;
                 }
                 sum += h == without ? 0 : thrown[h];
@@ -1548,7 +1539,7 @@ public final class ThrowArms {
                 last = chosen ? i : last;
             }
             return mayHave(t, set ^ 1 << last)
-                && diary.allows(first + last, book.fullThrows(t, first + last));
+                && diary.clashes(first + last, book.fullThrows(t, first + last)) == 0;
         }
 
         private boolean mayHave(int t, int set) {
