@@ -218,25 +218,30 @@ public final class ActsTest {
         Check.answered("above stamina", arms, arms.better(), 0);
     }
 
-    /** An outing goes through all throwers at most, so 99 are never reached; it ends. */
+    /** A plan, found by search, in which throwers make room for one another 104 times. */
     private static void betterUpTo99() {
-        StringBuilder text = new StringBuilder();
-        for (int t = 0; t < 8; t++) {
-            text.append("arm ").append((char) ('a' + t)).append(" left ").append(10 + t);
-            text.append(" 10 10 0;");
+        ThrowArms arms = Check.told("arm a left 83 66 11 0;arm b left 82 66 6 0;arm c right 73 66 57 0;"
+            + "arm d left 69 66 0 0;arm e left 52 66 27 0;arm f right 94 66 18 0;"
+            + "arm g left 85 66 19 0;arm h left 81 66 33 0;game 2 9 200;game 3 1 200;"
+            + "game 6 6 200;game 10 3 200;game 11 2 200;game 18 6 200;game 22 5 200;"
+            + "game 23 1 200;game 28 8 200;game 32 9 200;game 33 6 200;game 39 7 200;"
+            + "game 41 7 200;game 48 3 200;game 49 9 200;game 52 9 200;game 53 6 200;"
+            + "game 54 8 200;game 57 6 200;game 59 2 200;edge 0;week 0;rest 9 9;"
+            + "rest 10 8;rest 13 8;rest 17 0;rest 27 0");
+        int[] puts = {
+            2, 24, 7, 8, 1, 39, 1, 39, 6, 29, 7, 4, 6, 25, 0, 19, 4, 45, 2, 21, 0, 65, 7,
+            37, 2, 26, 5, 34, 3, 65, 3, 22, 4, 64, 2, 25, 3, 4, 4, 18, 1, 25, 1, 36, 0, 35,
+            6, 2, 0, 45, 4, 45, 2, 3, 3, 8, 2, 12, 5, 44, 1, 41, 4, 62, 0, 22, 7, 3, 4, 66,
+            3, 36, 2, 9, 7, 4, 6, 30, 3, 53, 0, 25, 2, 22, 1, 7, 5, 29, 0, 52, 2, 18, 1,
+            28, 7, 10, 2, 3, 5, 66, 6, 30, 6, 38, 4, 31, 2, 8, 1, 49, 2, 2, 4, 35, 3, 40,
+            0, 17, 1, 38
+        };
+        for (int i = 0; i < puts.length / 2; i++) {
+            arms.put(i / 3, puts[2 * i], puts[2 * i + 1], true);
         }
-        for (int g = 0; g < 20; g++) {
-            text.append(g == 0 ? "" : ";").append("game ").append(g).append(" 4 200");
-        }
-        ThrowArms arms = Check.told(text.toString());
-        for (int g = 0; g < 20; g++) {
-            for (int t = 0; t < 3; t++) {
-                arms.put(g, t, 10 - t, false);
-            }
-        }
-        int changes = arms.better();
-        Check.isTrue("some changes", changes >= 60 && changes <= 99);
-        Check.equal("nobody is better then", changes < 99 ? arms.better() : 0, 0);
+        Check.answered("no more than 99", arms, arms.better(), 99);
+        Check.answered("what is left", arms, arms.better(), 5);
+        Check.answered("nothing", arms, arms.better(), 0);
     }
 
     private static void fills() {
