@@ -15,6 +15,7 @@ public final class ActsTest {
         takes();
         shifts();
         swaps();
+        swapsOfBothSides();
         betters();
         betterOfLikeOnes();
         betterUpTo99();
@@ -120,6 +121,8 @@ public final class ActsTest {
         Check.answered("his throws", arms, arms.arm(0, 5), 50);
         Check.answered("fewer", arms, arms.shift(0, 0, 19), 50);
         Check.answered("the same", arms, arms.shift(0, 0, 19), 19);
+        Check.answered("one throw", arms, arms.shift(0, 0, 1), 19);
+        arms.undo();
         arms.put(2, 0, 20, false);
         Check.refused("own rest", arms, arms.shift(0, 0, 50), 5);
         Check.answered("less rest", arms, arms.shift(0, 0, 49), 19);
@@ -130,7 +133,7 @@ public final class ActsTest {
     }
 
     private static void swapped(ThrowArms arms, int due, int g, int k, int h, int j) {
-        Check.equal("swap", arms.swap(g, k, h, j) ? 0 : arms.trouble(), due);
+        Check.isTrue("swap", arms.swap(g, k, h, j) == (due == 0));
         Check.equal("trouble of swap", arms.trouble(), due);
     }
 
@@ -163,6 +166,28 @@ public final class ActsTest {
         arms.put(1, 2, 20, false);
         swapped(arms, 5, 0, 1, 1, 1);
         swapped(arms, 5, 1, 1, 0, 1);
+    }
+
+    /** Where both go counts, and what they leave doesn't. */
+    private static void swapsOfBothSides() {
+        ThrowArms arms = Check.told("arm a left 5 50 50 0;arm b left 5 50 50 0;game 0 4 50;"
+            + "game 1 4 50;game 2 4 50;week 50;rest 10 1");
+        arms.put(0, 0, 40, false);
+        arms.put(1, 1, 30, false);
+        swapped(arms, 0, 0, 0, 1, 0);
+        swapped(arms, 0, 0, 0, 1, 0);
+        arms.put(2, 0, 5, true);
+        swapped(arms, 5, 0, 0, 1, 0);
+        swapped(arms, 5, 1, 0, 0, 0);
+        arms.rule(0, 60);
+        swapped(arms, 5, 0, 0, 1, 0);
+        arms.rests(0, 0);
+        swapped(arms, 0, 0, 0, 1, 0);
+        arms.rests(0, 1);
+        swapped(arms, 0, 1, 0, 0, 0);
+        arms.become(1, 1, 39);
+        swapped(arms, 5, 0, 0, 1, 0);
+        swapped(arms, 5, 1, 0, 0, 0);
     }
 
     private static void betters() {
@@ -266,6 +291,9 @@ public final class ActsTest {
         arms = Check.told("arm a left 5 10 10 0;arm b left 5 10 10 0;game 0 4 8");
         Check.answered("of like ones", arms, arms.fill(0), 1);
         Check.answered("the least", arms, arms.outing(0, 0, 0), 0);
+        arms.shift(0, 0, 7);
+        Check.answered("one throw is left", arms, arms.fill(0), 1);
+        Check.answered("of the other one", arms, arms.outing(0, 1, 0), 1);
     }
 
     private static void fillsAll() {

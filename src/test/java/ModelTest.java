@@ -1,9 +1,5 @@
-import java.lang.reflect.InvocationTargetException;
-import java.lang.reflect.Method;
 import java.util.ArrayList;
-import java.util.HashMap;
 import java.util.List;
-import java.util.Map;
 import java.util.Random;
 
 /** Drawn runs of calls, on the class and on the Model: every answer must be the same. */
@@ -27,23 +23,13 @@ public final class ModelTest {
     };
 
     private final Random random;
-    private final Map<String, Method> ours = new HashMap<>();
-    private final Map<String, Method> theirs = new HashMap<>();
     private final List<String> drawn = new ArrayList<>();
-    private final StringBuilder log = new StringBuilder();
-    private ThrowArms arms;
-    private Model model;
+    private Twins twins;
     private int armCount;
     private int gameCount;
 
     private ModelTest(long seed) {
         random = new Random(seed);
-        for (Method method : ThrowArms.class.getMethods()) {
-            ours.put(method.getName(), method);
-        }
-        for (Method method : Model.class.getMethods()) {
-            theirs.put(method.getName(), method);
-        }
         for (String call : CALLED) {
             String[] parts = call.split(" ");
             for (int i = 0; i < Integer.parseInt(parts[1]); i++) {
@@ -52,14 +38,14 @@ public final class ModelTest {
         }
     }
 
-    public static void main(String[] args) throws Exception {
+    public static void main(String[] args) {
         long seed = args.length > 0 ? Long.parseLong(args[0]) : 1;
         int runs = args.length > 1 ? Integer.parseInt(args[1]) : RUNS;
         ModelTest test = new ModelTest(seed);
         for (int run = 0; run < runs; run++) {
             if (!test.run(run)) {
                 System.out.println("run " + run + " of seed " + seed + " differs:");
-                System.out.println(test.log);
+                System.out.println(test.twins.log);
                 Check.isTrue("class and model answer alike", false);
                 break;
             }
@@ -68,10 +54,8 @@ public final class ModelTest {
         Check.end();
     }
 
-    private boolean run(int number) throws Exception {
-        log.setLength(0);
-        arms = new ThrowArms();
-        model = new Model();
+    private boolean run(int number) {
+        twins = new Twins();
         for (int i = 0; i < CALLS; i++) {
             boolean same;
             if (i == 3 || random.nextInt(120) == 0) {
@@ -80,32 +64,13 @@ public final class ModelTest {
                 same = feedAlone();
             } else {
                 String[] call = drawn.get(random.nextInt(drawn.size())).split(" ", -1);
-                same = call(call[0], numbers(call[1]));
+                same = twins.call(call[0], numbers(call[1]));
             }
-            if (!same || !call("trouble", new Object[0]) || !call("where", new Object[0])) {
+            if (!same || !twins.call("trouble") || !twins.call("where")) {
                 return false;
             }
         }
         return true;
-    }
-
-    private boolean call(String name, Object[] numbers) throws Exception {
-        Object got = invoke(ours.get(name), arms, numbers);
-        Object due = invoke(theirs.get(name), model, numbers);
-        log.append(name).append(List.of(numbers)).append(" = ").append(got);
-        if (!got.equals(due)) {
-            log.append(", due is ").append(due);
-        }
-        log.append('\n');
-        return got.equals(due);
-    }
-
-    private static Object invoke(Method method, Object on, Object[] numbers) throws Exception {
-        try {
-            return method.invoke(on, numbers);
-        } catch (InvocationTargetException thrown) {
-            return "throws " + thrown.getCause().getClass().getName();
-        }
     }
 
     private Object[] numbers(String kinds) {
@@ -154,9 +119,9 @@ public final class ModelTest {
     }
 
     /** A TEXT comes, now and then with a FAULT; what was on THE TAPE mostly goes ahead of it. */
-    private boolean tell(double faulty) throws Exception {
-        if (arms.size() > 0 && random.nextInt(10) > 0
-            && !call("text", new Object[] {arms.size()})) {
+    private boolean tell(double faulty) {
+        int size = twins.arms.size();
+        if (size > 0 && random.nextInt(10) > 0 && !twins.call("text", size)) {
             return false;
         }
         boolean spoilt = random.nextDouble() < faulty;
@@ -166,42 +131,24 @@ public final class ModelTest {
         for (int i = 0; spoilt && i < 1 + random.nextInt(2); i++) {
             text = spoil(text);
         }
-        boolean same = feed(text);
-        int n = arms.size();
+        boolean same = twins.feed(text);
+        int n = twins.arms.size();
         if (random.nextBoolean()) {
             n = Math.min(n, text.length());
         }
-        same = same && call("text", new Object[] {n}) && call("where", new Object[0])
-            && call("trouble", new Object[0]) && call("fault", new Object[0]);
-        gameCount = Math.max(0, model.about(1));
-        armCount = Math.max(0, model.about(0));
-        arms.about(1);
-        return same;
-    }
-
-    private boolean feed(String text) throws Exception {
-        boolean same = true;
-        for (int i = 0; i < text.length() && same; i += 20) {
-            Object[] five = new Object[5];
-            for (int j = 0; j < 5; j++) {
-                int four = 0;
-                for (int k = i + 4 * j; k < i + 4 * j + 4; k++) {
-                    four = four << 8 | (k < text.length() ? text.charAt(k) & 255 : ' ');
-                }
-                five[j] = four;
-            }
-            same = call("feed", five);
-        }
-        return same;
+        same = same && twins.callAndTrouble("text", n) && twins.call("fault");
+        gameCount = Math.max(0, twins.model.about(1));
+        armCount = Math.max(0, twins.model.about(0));
+        return same && twins.call("about", 0);
     }
 
     /** Only something for named(). */
-    private boolean feedAlone() throws Exception {
-        if (arms.size() > 100 && !call("text", new Object[] {0})) {
+    private boolean feedAlone() {
+        if (twins.arms.size() > 100 && !twins.call("text", 0)) {
             return false;
         }
         String blanks = " ".repeat(random.nextInt(6));
-        return feed(blanks + (char) ('a' + random.nextInt(9))) && call("named", new Object[] {20});
+        return twins.feed(blanks + (char) ('a' + random.nextInt(9))) && twins.call("named", 20);
     }
 
     private String text() {

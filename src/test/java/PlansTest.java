@@ -12,6 +12,7 @@ public final class PlansTest {
         bests();
         bestRefusals();
         bestByOthers();
+        bestOfAlone();
         bestOfLikeOnes();
         bestWithNobody();
         bestOfFive();
@@ -82,6 +83,17 @@ public final class PlansTest {
         // bob's 100 are too many for the week, and ann's 50 ask for more than eight days
         arms.rule(0, 99);
         row(arms, 3, 10 * 16 + 10 * 8, 2);
+    }
+
+    /** Each call finds its own row. */
+    private static void bestOfAlone() {
+        ThrowArms arms = Check.told(TEXT);
+        Check.answered("bestOf", arms, arms.bestOf(0, 1, 0), 1);
+        Check.answered("bestOf", arms, arms.bestOf(1, 2, 0), 0);
+        Check.answered("bestOf", arms, arms.bestOf(1, 2, 1), 1);
+        Check.answered("laid", arms, arms.laid(3, 1), 3510);
+        Check.answered("bestOf", arms, arms.bestOf(0, 3, 2), 2);
+        Check.answered("best", arms, arms.best(2, 1), 1180);
     }
 
     private static void bestOfLikeOnes() {

@@ -15,6 +15,7 @@ public final class SoTest {
         risks();
         sounds();
         seasons();
+        drawAsRisk();
         comingBack();
         spans();
         Check.end();
@@ -141,6 +142,9 @@ public final class SoTest {
         Check.answered("one day", arms, arms.gap(0), 1);
         arms.put(0, 1, 5, false);
         Check.answered("from 1 on", arms, arms.idle(1), 59);
+        arms.put(1, 1, 5, false);
+        Check.answered("from the first game on", arms, arms.gap(1), 20);
+        arms.take(1, 1);
         arms.take(0, 1);
         arms.put(4, 1, 5, false);
         Check.answered("up to 58", arms, arms.idle(1), 59);
@@ -177,13 +181,18 @@ public final class SoTest {
         Check.answered("above", arms, arms.risk(2), 9 + 90);
         arms.put(0, 1, 80, false);
         Check.answered("not frail", arms, arms.risk(1), 0);
+        arms.shift(0, 0, 10);
+        arms.become(2, 2, 9);
+        Check.answered("above in all", arms, arms.risk(2), 9 + 18 + 99);
     }
 
     private static void sounds() {
         ThrowArms arms = Check.told("arm a left 9 120 0 9;arm b left 9 99 1 7;game 0 0 200;"
             + "game 1 0 200;game 2 0 200;game 3 0 200;game 4 0 200;game 5 0 200;game 6 0 200");
         sound(arms, 0, 1, 1);
-        arms.put(0, 0, 20, false);
+        arms.put(0, 0, 2, false);
+        sound(arms, 0, 491, 500);
+        arms.shift(0, 0, 20);
         sound(arms, 0, 41, 50);
         arms.put(1, 0, 30, false);
         sound(arms, 0, 41L * 73, 5000);
@@ -198,6 +207,7 @@ public final class SoTest {
         Check.refused("seven", arms, arms.sound(1, 0), 5);
         Check.refused("seven", arms, arms.sound(1, 1), 5);
         Check.refused("what is ahead", arms, arms.sound(1, 2), 1);
+        sound(arms, 0, 0, 1);
     }
 
     private static void sound(ThrowArms arms, int t, long above, long below) {
@@ -237,6 +247,17 @@ public final class SoTest {
         season(arms, 1, 2, 3, 2, 45 + 108 + 36 + 9 * 37, 1);
         // its draws are what 2,147,483,647 is above these: 840, 398, 574, 989, 717
         season(arms, 2147483646, 1, 2, 1, 45 + 108 + 36 + 480 + 9 * 37, 2);
+    }
+
+    /** The third draw by seed 1 is 73 modulo 1,000: a risk of 73 is not above it. */
+    private static void drawAsRisk() {
+        ThrowArms arms = Check.told("arm a left 9 120 0 1;game 0 0 200;game 5 0 200;game 6 0 200");
+        arms.put(0, 0, 1, false);
+        arms.put(1, 0, 1, false);
+        arms.put(2, 0, 73, false);
+        season(arms, 1, 0, 0, 0, 4 + 4 + 9 * 73 / 2, -2);
+        arms.shift(2, 0, 74);
+        season(arms, 1, 1, 1, 0, 4 + 4 + 9 * 37, 2);
     }
 
     /** Hurt on day 0 for 15 days: day 15 is missed, day 16 isn't. */

@@ -123,6 +123,9 @@ public final class TextsTest {
         good("week 0;edge 0;out 1;" + GOOD, 1);
         good(ARM + ";game 0 0 1;game 1 0 1;game 59 0 1", 3);
         good("arm arms left 1 1 0 0;arm ar right 1 1 0 0;" + GAME, 1);
+        good("arm aa left 1 1 0 0;" + GOOD + ";arm ba left 1 1 0 0;arm b left 1 1 0 0", 1);
+        good("arm aaaaaaa left 1 1 0 0;" + GOOD + ";arm baaaaaa left 1 1 0 0", 1);
+        good("arm zz left 1 1 0 0;" + GOOD + ";arm yz left 1 1 0 0;arm zy left 1 1 0 0", 1);
         good(throwers(8) + games(20) + "rest 1 0;rest 2 0;rest 3 0;rest 4 0;rest 5 0", 20);
     }
 
@@ -163,6 +166,10 @@ public final class TextsTest {
         bad("arma left 1 1 0 0;" + GAME, 1, 0);
         bad("Arm a left 1 1 0 0;" + GAME, 1, 0);
         bad("left;" + GOOD, 1, 0);
+        bad("xrm a left 1 1 0 0;" + GAME, 1, 0);
+        bad("arx a left 1 1 0 0;" + GAME, 1, 0);
+        bad("ar a left 1 1 0 0;" + GAME, 1, 0);
+        bad("arm a lift 1 1 0 0;" + GAME, 1, 6);
         bad("arm", 1, 3);
         bad("arm a", 1, 5);
         bad("arm 1 left 1 1 0 0", 1, 4);

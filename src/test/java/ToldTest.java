@@ -12,6 +12,7 @@ public final class ToldTest {
         pointsAndWorth();
         mosts();
         mostWithLessRest();
+        oneThrow();
         whens();
         ranks();
         extras();
@@ -176,6 +177,22 @@ public final class ToldTest {
         arms.rests(1, 9);
         arms.rests(2, 1);
         Check.answered("the last one", arms, arms.most(0, 0), 60);
+    }
+
+    /** One throw is an outing like others. */
+    private static void oneThrow() {
+        ThrowArms arms = Check.told("arm a left 9 60 60 0;game 0 0 1;game 2 0 90;game 4 0 90;"
+            + "rest 1 2;week 9");
+        Check.answered("most of one", arms, arms.most(0, 0), 1);
+        arms.put(1, 0, 1, false);
+        Check.answered("ahead of it", arms, arms.most(0, 0), 0);
+        Check.answered("behind it", arms, arms.most(0, 2), 0);
+        Check.answered("ahead of it", arms, arms.clash(0, 0, 1), 4);
+        Check.answered("behind it", arms, arms.clash(0, 2, 1), 2);
+        arms.rests(0, 1);
+        Check.answered("with less rest", arms, arms.clash(0, 2, 8), 0);
+        Check.answered("in one week", arms, arms.clash(0, 2, 9), 8);
+        Check.answered("when", arms, arms.when(0, 0, 1), 0);
     }
 
     private static void whens() {
