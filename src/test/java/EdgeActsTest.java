@@ -30,9 +30,11 @@ public final class EdgeActsTest {
         notAllowedThen();
         betterOfNothing();
         betterByMore();
+        betterOfLikeOnes();
         betterUpTo99();
         gamesOfFill();
         fillUpToThree();
+        fillInOrder();
         fillOfNothing();
         fillAllOfAll();
         Check.end();
@@ -270,6 +272,12 @@ public final class EdgeActsTest {
         Check.answered("throws stay", arms, arms.outing(g, k, 1), ahead[1]);
         Check.answered("the one", arms, arms.outing(h, j, 0), ahead[0]);
         Check.answered("throws stay", arms, arms.outing(h, j, 1), ahead[3]);
+        ThrowArms other = scene.set();
+        for (int t : new int[] {ahead[0], ahead[2]}) {
+            int more = (t == ahead[0] ? 1 : -1) * (ahead[3] - ahead[1]);
+            Check.answered("his throws", arms, arms.arm(t, 5), other.arm(t, 5) + more);
+            Check.answered("his OUTINGS", arms, arms.arm(t, 6), other.arm(t, 6));
+        }
     }
 
     /** "false: 1". */
@@ -330,6 +338,17 @@ public final class EdgeActsTest {
             x -> x.put(2, 1, 20, false), x -> x.rests(0, 4)), 5, 0, 0, 1, 0);
         swapped(Edge.scene(text, x -> x.put(0, 1, 1, false), x -> x.put(1, 0, 29, false),
             x -> x.put(2, 1, 20, false), x -> x.rests(0, 4)), 0, 0, 1, 0);
+        // what b leaves is in the week of the DAY he comes to and of DAY 4, and doesn't count
+        String week = "arm a left 5 50 50 0;arm b left 6 50 50 0;game 0 4 50;game 2 4 50;"
+            + "game 4 4 50;week 60";
+        for (int from = 0; from <= 1; from++) {
+            int left = from;
+            int other = 1 - from;
+            swapped(Edge.scene(week, x -> x.put(left, 1, 9, false),
+                x -> x.put(other, 0, 50, false), x -> x.put(2, 1, 10, false)), 0, 0, 1, 0);
+            notSwapped(Edge.scene(week, x -> x.put(left, 1, 9, false),
+                x -> x.put(other, 0, 50, false), x -> x.put(2, 1, 11, false)), 5, 0, 0, 1, 0);
+        }
         // what they leave doesn't count: they are on DAYS one behind another
         swapped(Edge.scene("arm a left 5 50 50 0;arm b left 6 50 50 0;game 0 4 50;game 1 4 50;"
             + "rest 1 9;week 50", x -> x.put(0, 0, 50, false), x -> x.put(1, 1, 50, false)),
@@ -367,6 +386,25 @@ public final class EdgeActsTest {
         // it isn't ALLOWED where it is, but another one there would be
         Edge.acted("a breach is mended", Edge.scene(two, x -> x.put(0, 0, 10, false),
             x -> x.become(0, 1, 8)), 1, x -> x.better());
+    }
+
+    /** Of like ones the first OUTING, then the least THROWER; he who goes has it no more. */
+    private static void betterOfLikeOnes() {
+        Edge.Scene scene = Edge.scene("arm a left 9 10 10 0;arm b left 5 10 10 0;arm c left 9 10 10 0;"
+            + "game 0 0 20;game 1 0 20;week 10", x -> x.put(0, 1, 5, false),
+            x -> x.put(1, 1, 5, false));
+        Edge.acted("two changes", scene, 2, x -> x.better());
+        ThrowArms arms = scene.set();
+        arms.rule(0, 5);
+        arms.better();
+        Check.answered("the first is the least one's", arms, arms.outing(0, 0, 0), 0);
+        Check.answered("whose week is full then", arms, arms.outing(1, 0, 0), 2);
+        int[] due = {5, 0, 5};
+        for (int t = 0; t < 3; t++) {
+            Check.answered("his throws", arms, arms.arm(t, 5), due[t]);
+            Check.answered("his OUTINGS", arms, arms.arm(t, 6), due[t] / 5);
+            Check.answered("MOST", arms, arms.most(t, 0), t == 1 ? 5 : 0);
+        }
     }
 
     /** "(99 at most)": ActsTest has a plan of 104 changes; here all sixty change at once. */
@@ -417,6 +455,23 @@ public final class EdgeActsTest {
         for (int k = 0; k < 3; k++) {
             Check.answered("who", arms, arms.outing(2, k, 0), due[k][0]);
             Check.answered("throws", arms, arms.outing(2, k, 1), due[k][1]);
+        }
+    }
+
+    /** "of that one for whom it has the greatest VALUE, of like ones the least". */
+    private static void fillInOrder() {
+        int[][] strengths = {{9, 9, 9, 9}, {5, 9, 9, 5}, {9, 8, 7, 6}, {6, 7, 8, 9}, {1, 9, 2, 9}};
+        int[][] due = {{0, 1, 2}, {1, 2, 0}, {0, 1, 2}, {3, 2, 1}, {1, 3, 2}};
+        for (int i = 0; i < strengths.length; i++) {
+            ThrowArms arms = Edge.scene(FOUR).set();
+            for (int t = 0; t < 4; t++) {
+                arms.become(t, 0, strengths[i][t]);
+            }
+            Check.answered("three", arms, arms.fill(0), 3);
+            for (int k = 0; k < 3; k++) {
+                Check.answered("who", arms, arms.outing(0, k, 0), due[i][k]);
+                Check.answered("all he can", arms, arms.outing(0, k, 1), 50);
+            }
         }
     }
 

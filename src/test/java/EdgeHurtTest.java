@@ -25,6 +25,7 @@ public final class EdgeHurtTest {
         outDays();
         hurtAgain();
         bitsOfThrowers();
+        riskOfTheLast();
         nobodyIsHurt();
         seedsOfSpan();
         whatsOfSpan();
@@ -282,6 +283,17 @@ public final class EdgeHurtTest {
         Edge.asked("MISSED", scene, 2, x -> x.season(5, 2));
         Edge.asked("VALUES", scene, 360, x -> x.season(5, 3));
         Edge.asked("the first GAME", scene, 0, x -> x.season(5, 4));
+    }
+
+    /** RISKS of the last THROWER in the last GAME are his alone. */
+    private static void riskOfTheLast() {
+        Edge.Scene scene = Edge.scene(Edge.fullText(), x -> x.put(0, 0, 61, false),
+            x -> x.put(19, 7, 62, false), x -> x.put(0, 1, 63, false));
+        int[][] due = {{0, 9, 991}, {1, 27, 973}, {2, 0, 1}, {6, 0, 1}, {7, 18, 491}};
+        for (int[] row : due) {
+            Edge.asked("risk", scene, row[1], x -> x.risk(row[0]));
+            Edge.asked("sound", scene, row[2], x -> x.sound(row[0], 0));
+        }
     }
 
     /** "1 who was (bits)": the first THROWER's is 1, the eighth's is 128. */

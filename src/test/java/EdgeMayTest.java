@@ -20,6 +20,7 @@ public final class EdgeMayTest {
         mostWithThreeOutings();
         restOfAnEarlierOne();
         restToALaterOne();
+        restOfOneThrow();
         restsOfAllOthers();
         sevenDays();
         sevenDaysOfBothSides();
@@ -211,6 +212,18 @@ public final class EdgeMayTest {
                 Check.answered("most", arms, arms.most(0, 0), rested ? 120 : 29);
                 Check.answered("REST of no later one", arms, arms.clash(0, 1, 120), 0);
             }
+        }
+    }
+
+    /** FROM 1: one throw asks for rest like others. */
+    private static void restOfOneThrow() {
+        for (int days = 1; days <= 3; days++) {
+            Edge.Scene earlier = Edge.scene(twoGames(days, "rest 1 2"), x -> x.put(0, 0, 1, false));
+            Edge.asked("behind it", earlier, days > 2 ? 0 : 2, x -> x.clash(0, 1, 1));
+            Edge.asked("behind it", earlier, days > 2 ? 120 : 0, x -> x.most(0, 1));
+            Edge.Scene later = Edge.scene(twoGames(days, "rest 1 2"), x -> x.put(1, 0, 1, false));
+            Edge.asked("ahead of it", later, days > 2 ? 0 : 4, x -> x.clash(0, 0, 1));
+            Edge.asked("ahead of it", later, days > 2 ? 120 : 0, x -> x.most(0, 0));
         }
     }
 

@@ -19,6 +19,7 @@ public final class EdgePlansTest {
         restAmongThem();
         restOfOthers();
         weekAmongThem();
+        weekOfThree();
         asIfThereWereNone();
         nobody();
         likeOnes();
@@ -174,6 +175,15 @@ public final class EdgePlansTest {
                 Check.answered("with another", arms, arms.best(1, 1), fits ? 350 : 0);
             }
         }
+    }
+
+    /** Of three in one week two are too many, if WEEK is one less; the one between doesn't count. */
+    private static void weekOfThree() {
+        String three = "arm a left 7 50 50 0;game 0 0 50;game 1 0 50;game 2 0 50;week ";
+        found(Edge.scene(three + 99), 0, 350, 0, -2, -2);
+        found(Edge.scene(three + 100), 0, 700, 0, 0, -2);
+        found(Edge.scene(three + 149), 0, 700, 0, 0, -2);
+        found(Edge.scene(three + 150), 0, 1050, 0, 0, 0);
     }
 
     /** "as if these had no OUTINGS", be they three, be they of the same THROWER. */

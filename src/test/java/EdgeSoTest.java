@@ -16,6 +16,7 @@ public final class EdgeSoTest {
         firstDayOfBusiest();
         idleDays();
         idleOfTwentyGames();
+        ofAllThere();
         gapOfFewerThanTwo();
         fewestDays();
         handsOfAGame();
@@ -221,6 +222,21 @@ public final class EdgeSoTest {
         }
         Edge.asked("twenty", throwsOn(days), 2, x -> x.idle(0));
         Edge.asked("twenty", throwsOn(days), 2, x -> x.gap(0));
+    }
+
+    /** The first and the last THROWER of eight, in the first and the last GAME of twenty. */
+    private static void ofAllThere() {
+        Edge.Scene ends = Edge.scene(Edge.fullText(), x -> x.put(0, 0, 1, false),
+            x -> x.put(0, 7, 2, false), x -> x.put(18, 7, 4, false), x -> x.put(19, 6, 8, false));
+        int[][] due = {{0, 59, -2, 1, 0}, {1, 60, -2, 0, 0}, {6, 59, -2, 8, 59}, {7, 53, 54, 4, 54}};
+        for (int[] row : due) {
+            Edge.asked("idle", ends, row[1], x -> x.idle(row[0]));
+            Edge.asked("gap", ends, row[2], x -> x.gap(row[0]));
+            Edge.asked("busiest", ends, row[3], x -> x.busiest(row[0], 0));
+            Edge.asked("its DAY", ends, row[4], x -> x.busiest(row[0], 1));
+            Edge.asked("risk", ends, 0, x -> x.risk(row[0]));
+            Edge.asked("sound", ends, 1, x -> x.sound(row[0], 0));
+        }
     }
 
     /** "-2: he has fewer than two". */

@@ -1,3 +1,6 @@
+import java.util.ArrayList;
+import java.util.List;
+
 /** Terms I: the bounds of TOKENS, of every WHOLE of a LINE, of how many there may be; the FAULTS. */
 public final class EdgeTextTest {
     private static final String ARM = "arm a left 1 1 0 0";
@@ -21,6 +24,8 @@ public final class EdgeTextTest {
         fullText();
         namesThatMayBe();
         noTwoAlike();
+        unlikeNames();
+        wordsOfLines();
         linesCutShort();
         wrongTokens();
         tokensBehindALine();
@@ -355,6 +360,56 @@ public final class EdgeTextTest {
         taken("arm aaaaaaa left 1 1 0 0;arm aaaaaab left 1 1 0 0;"
             + "arm baaaaaa left 1 1 0 0;arm aaaaaa left 1 1 0 0;" + GAME);
         taken("arm ab left 1 1 0 0;arm ba left 1 1 0 0;arm zz left 1 1 0 0;" + GAME);
+    }
+
+    /** NAMES that differ in one letter or in how many they have are two, whatever the letters. */
+    private static void unlikeNames() {
+        String letters = "aboz";
+        List<String> names = new ArrayList<>();
+        for (int from = 0, length = 0; length < 3; length++) {
+            int to = names.size();
+            for (char letter : letters.toCharArray()) {
+                for (int i = from; i < to; i++) {
+                    names.add(names.get(i) + letter);
+                }
+                if (length == 0) {
+                    names.add("" + letter);
+                }
+            }
+            from = to;
+        }
+        for (int at = 0; at < 7; at++) {
+            for (char letter = 'a'; letter <= 'z'; letter++) {
+                names.add("mmmmmmm".substring(0, at) + letter + "mmmmmm".substring(at));
+            }
+        }
+        for (String one : names) {
+            for (String other : names) {
+                String text = "arm " + one + " left 1 1 0 0;arm " + other + " left 1 1 0 0;" + GAME;
+                int due = one.equals(other) ? ThrowArms.NONE : 1;
+                Check.equal(text, Check.tell(new ThrowArms(), text), due);
+            }
+        }
+    }
+
+    /** Each letter of the WORDS that begin a LINE, and of a HAND, counts. */
+    private static void wordsOfLines() {
+        String[] lines = {"arm b left 5 6 4 3", "game 7 3 9", "rest 7 3", "week 7", "edge 7", "out 7"};
+        for (String line : lines) {
+            for (int i = 0; line.charAt(i) != ' '; i++) {
+                String wrong = line.substring(0, i) + "q" + line.substring(i + 1);
+                faulty(GOOD + ";" + wrong, 1, 30);
+                faulty(GOOD + ";" + line.substring(0, i) + line.substring(i + 1), 1, 30);
+            }
+        }
+        for (String hand : new String[] {"left", "right"}) {
+            for (int i = 0; i < hand.length(); i++) {
+                String cut = hand.substring(0, i);
+                String rest = hand.substring(i + 1) + " 1 1 0 0";
+                faulty(GOOD + ";arm b " + cut + "q" + rest, 1, 36);
+                faulty(GOOD + ";arm b " + cut + rest, 1, 36);
+            }
+        }
     }
 
     private static final String[] LINES = {"arm b left 5 6 4 3", "arm b right 5 6 4 3",
