@@ -18,6 +18,13 @@ public final class SentenceTest {
         fillByWhatIsLeft();
         fillAllGameByGame();
         undoIsNotRefused();
+        mostByWeekAndRest();
+        laidThoughWorthNothing();
+        betterByGrowth();
+        thirdOutingIsThrown();
+        rulesLeaveThePlan();
+        eighthThrower();
+        twentiethGame();
         Check.end();
     }
 
@@ -223,5 +230,117 @@ public final class SentenceTest {
         Check.equal("a FAULT", Check.tell(arms, "week ?"), ThrowArms.NONE);
         Check.equal("its place", arms.where(), 5);
         Check.answered("undo behind it", arms, arms.undo(), 0);
+    }
+
+    /** "the greatest x .. that would be ALLOWED": what WEEK leaves may still ask for too much rest. */
+    private static void mostByWeekAndRest() {
+        String text = "arm a left 9 60 9 0;game 0 0 60;game 3 0 60;rest 20 5;rest 55 0;week ";
+        int[][] due = {{0, 60}, {65, 60}, {60, 55}, {59, 19}, {45, 19}, {24, 19}, {23, 18}, {5, 0}};
+        for (int[] row : due) {
+            Edge.Scene scene = Edge.scene(text + row[0], x -> x.put(1, 0, 5, false));
+            Edge.asked("most by WEEK " + row[0], scene, row[1], x -> x.most(0, 0));
+        }
+    }
+
+    /** "THE BEST .. is in THE PLAN": also one who is ahead of nobody with a VALUE of 0. */
+    private static void laidThoughWorthNothing() {
+        ThrowArms arms = Check.told("arm a left 9 50 50 0;game 0 0 40;edge 1");
+        Check.answered("laid", arms, arms.laid(0, 1), 0);
+        Check.answered("an OUTING", arms, arms.game(0, 3), 1);
+        Check.answered("its throws", arms, arms.outing(0, 0, 1), 40);
+    }
+
+    /** "that change by which it grows most": not the one by which it is greatest then. */
+    private static void betterByGrowth() {
+        // c may be in one of both: 300 more of 1,500 are less than 1,180 more of 20
+        Edge.Scene scene = Edge.scene("arm a left 50 60 60 0;arm b left 1 60 60 0;"
+            + "arm c left 60 60 60 0;game 0 4 60;game 1 4 60;rest 1 1", x -> x.put(0, 0, 30, false),
+            x -> x.put(1, 1, 20, false));
+        Edge.acted("better", scene, 1, x -> x.better());
+        ThrowArms arms = scene.set();
+        arms.better();
+        Check.answered("a stays", arms, arms.outing(0, 0, 0), 0);
+        Check.answered("c in b's place", arms, arms.outing(1, 0, 0), 2);
+    }
+
+    /** "OUTING by OUTING": the third of a GAME, too. */
+    private static void thirdOutingIsThrown() {
+        // seed 1 draws 807, 249, 73: c's RISK is 81
+        Edge.Scene scene = Edge.scene("arm a left 2 9 9 9;arm b left 2 9 9 9;arm c left 2 9 0 9;"
+            + "game 0 0 200;game 1 0 200", x -> x.put(0, 0, 1, false), x -> x.put(0, 1, 1, false),
+            x -> x.put(0, 2, 9, false), x -> x.put(1, 2, 1, false));
+        int[] due = {1, 4, 1, 2 + 2 + 9, 0};
+        for (int what = 0; what < due.length; what++) {
+            int which = what;
+            Edge.asked("season " + what, scene, due[what], x -> x.season(1, which));
+        }
+        Edge.asked("span of one", scene, 2 + 2 + 9, x -> x.span(1, 1, 1));
+    }
+
+    /** rule() and rests() change what they name; what isn't ALLOWED then stays. */
+    private static void rulesLeaveThePlan() {
+        Edge.Call[] acts = {x -> x.rule(0, 0), x -> x.rule(0, 1), x -> x.rule(0, 500),
+            x -> x.rule(1, 0), x -> x.rule(1, 9), x -> x.rule(2, 1), x -> x.rule(2, 60),
+            x -> x.rests(0, 0), x -> x.rests(0, 9), x -> x.rests(1, 9)};
+        int[] breaches = {0, 3, 0, 0, 0, 0, 0, 0, 2, 0};
+        for (int i = 0; i < acts.length; i++) {
+            ThrowArms arms = Check.told(Edge.SMALL);
+            arms.put(0, 1, 20, false);
+            arms.put(1, 1, 30, false);
+            arms.put(3, 2, 11, false);
+            Check.isTrue("not refused", acts[i].on(arms) != ThrowArms.NONE);
+            Check.answered("OUTINGS", arms, arms.about(2), 3);
+            Check.answered("his throws", arms, arms.arm(1, 5), 50);
+            Check.answered("his throws", arms, arms.arm(2, 5), 11);
+            Check.answered("breaches", arms, arms.breaches(), breaches[i]);
+        }
+    }
+
+    /** "up to 8": the eighth may be the best for all that is asked. */
+    private static void eighthThrower() {
+        StringBuilder text = new StringBuilder("game 0 4 80");
+        for (int t = 0; t < 8; t++) {
+            text.append(";arm ").append((char) ('a' + t)).append(" left ");
+            text.append(t < 6 ? 1 : t + 2).append(" 50 50 0");
+        }
+        Edge.Scene scene = Edge.scene(text.toString());
+        Edge.asked("ranked", scene, 7, x -> x.ranked(0, 0));
+        Edge.asked("extra", scene, 8 * 50, x -> x.extra(0));
+        Edge.asked("best", scene, 450, x -> x.best(0, 1));
+        Edge.asked("bestOf", scene, 7, x -> x.bestOf(0, 1, 0));
+        int[][] pairs = {{50, 450 + 240, 7, 6}, {30, 450 + 240, 6, 7}};
+        for (int[] row : pairs) {
+            for (int what = 0; what < 3; what++) {
+                int which = what;
+                Edge.asked("pair " + what, scene, row[1 + what], x -> x.pair(0, row[0], which));
+            }
+        }
+        Edge.acted("fill", scene, 2, x -> x.fill(0));
+        ThrowArms arms = scene.set();
+        arms.fill(0);
+        Check.answered("the eighth first", arms, arms.outing(0, 0, 0), 7);
+        Check.answered("the seventh then", arms, arms.outing(0, 1, 0), 6);
+        arms = scene.set();
+        arms.put(0, 0, 50, false);
+        Check.answered("better", arms, arms.better(), 1);
+        Check.answered("the eighth", arms, arms.outing(0, 0, 0), 7);
+    }
+
+    /** "up to 20": the last GAME counts for rests, WEEK and what is added up. */
+    private static void twentiethGame() {
+        StringBuilder text = new StringBuilder("arm a left 9 50 50 0;rest 20 1;week 60");
+        for (int g = 0; g < 20; g++) {
+            text.append(";game ").append(g).append(" 4 50");
+        }
+        Edge.Scene scene = Edge.scene(text.toString(), x -> x.put(19, 0, 30, false));
+        int[][] due = {{19, 0}, {20, 4}, {30, 4}, {31, 12}, {51, 13}};
+        for (int[] row : due) {
+            Edge.asked("clash of " + row[0], scene, row[1], x -> x.clash(0, 18, row[0]));
+        }
+        Edge.asked("most ahead of it", scene, 19, x -> x.most(0, 18));
+        Edge.asked("his throws", scene, 30, x -> x.arm(0, 5));
+        Edge.asked("his OUTINGS", scene, 1, x -> x.arm(0, 6));
+        Edge.asked("his VALUES", scene, 270, x -> x.arm(0, 7));
+        Edge.asked("all VALUES", scene, 270, x -> x.value());
     }
 }
